@@ -1142,7 +1142,7 @@ public final class EndSums {
             int leaps = 0;
             for (int i = 0; i < PLACES; i++) {
                 for (int j = 0; j < i; j++) {
-                    leaps += (arrangement >> 4 * i & 15) < (arrangement >> 4 * j & 15) ? 1 : 0;
+                    leaps += (arrangement >> 4 * i & 15) > (arrangement >> 4 * j & 15) ? 1 : 0;
                 }
             }
             return leaps;
