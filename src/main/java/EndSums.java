@@ -1006,6 +1006,7 @@ public final class EndSums {
         private static final int BRACKETS = 10;
         private static final int EMPTY_LEAST = 10000;
         private static final int PLACES = 4;
+        private static final int ARRANGED = 24;
         private static final int LONGEST_DIVISION = 100;
         // What each ARRANGEMENT has at its places, in four bits a place, place 0 highest.
         private static final int[] ARRANGEMENTS = {
@@ -1068,7 +1069,7 @@ public final class EndSums {
                 case 4:
                     return v % 2 == 0 ? 0 : v / 2 % BRACKETS;
                 case 5:
-                    return v % ARRANGEMENTS.length;
+                    return v % ARRANGED;
                 case 7:
                     return table.kindOf(v);
                 default:
@@ -1085,7 +1086,7 @@ public final class EndSums {
                 case 4:
                     return v % 2 == 0 ? v / 2 % BRACKETS : 0;
                 case 5:
-                    return leaps(arrangement(v % ARRANGEMENTS.length)) % 2;
+                    return leaps(arrangement(v % ARRANGED)) % 2;
                 case 7:
                     return 0;
                 default:
@@ -1189,7 +1190,7 @@ public final class EndSums {
                 case 4:
                     return 2 * BRACKETS;
                 case 5:
-                    return ARRANGEMENTS.length;
+                    return ARRANGED;
                 case 7:
                     return table.n;
                 default:
@@ -1211,8 +1212,11 @@ public final class EndSums {
         private final int[] entries = new int[LONGEST_TABLE * LONGEST_TABLE];
 
         private int entry(int r, int place) {
-            boolean inside = r >= 0 && r < LONGEST_TABLE && place >= 0 && place < LONGEST_TABLE;
-            return inside ? at(entries, r * LONGEST_TABLE + place) : 0;
+            if (r < 0 || r >= LONGEST_TABLE || place < 0 || place >= LONGEST_TABLE) {
+                return 0;
+            }
+            int i = r * LONGEST_TABLE + place;
+            return i < entries.length ? entries[i] : 0;
         }
 
         private int kindOf(int v) {
@@ -1307,7 +1311,7 @@ public final class EndSums {
         private int firstWrongInTable() {
             int n = firstRow();
             for (int p = 0; p <= length; p++) {
-                if (n < 1 || !fitsTable(p, n)) {
+                if (!fitsTable(p, n)) {
                     return p;
                 }
             }
@@ -1315,6 +1319,9 @@ public final class EndSums {
         }
 
         private boolean fitsTable(int p, int n) {
+            if (n < 1) {
+                return false;
+            }
             int r = p / (n + 1);
             int place = p % (n + 1);
             int sign = signOrBehind(p);
