@@ -194,6 +194,11 @@ public final class AsksTest {
         CHECK.due("of 0 ahead of fewer", x.greatest(1, 0), -1);
         CHECK.due("no LINE", x.greatest(4, 1), -1);
         CHECK.row("ROW stays", x, 3, 9);
+        EndSums full = lying(30, 34);
+        CHECK.due("1 of 64", full.greatest(0, 64), 0);
+        CHECK.row("1 of 64", full, 65 * 32, 64);
+        full.rule(1);
+        CHECK.due("the last of 64", full.greatest(0, 1), 63);
         x.rule(7);
         CHECK.due("all 0", x.greatest(0, 2), 0);
         CHECK.row("all 0", x, 0, 0);

@@ -152,6 +152,13 @@ public final class RulesTest {
         CHECK.due("with another neutral one", Check.table(x, "000/011/012"), 3);
         x.sum(1);
         CHECK.row("EMPTY is the neutral one", x, 2, 0);
+        Check.fill(x, 0, 2, 4);
+        x.sum(0);
+        CHECK.row("the least", x, 1, 0);
+        CHECK.due("Z2 the other way", Check.table(x, "10/01"), 2);
+        CHECK.due("its neutral one", x.count(6), 1);
+        x.sum(0);
+        CHECK.row("0 and 0", x, 1, 0);
     }
 
     private static void commutes() {
@@ -255,6 +262,8 @@ public final class RulesTest {
         CHECK.due("half", x.undoes(203), 5201);
         CHECK.due("one less", x.undoes(102), 201);
         CHECK.due("none to 0", x.undoes(5), -2);
+        CHECK.due("the greatest ITEM", x.undoes(5050), 9999);
+        CHECK.due("what undoes it is above the ITEMS", x.undoes(5101), -2);
         CHECK.due("98 by 67 is 1", x.undoes(98 * 101), 67 * 101);
         x.rule(4);
         CHECK.due("one way only", x.undoes(2), -2);
