@@ -378,10 +378,7 @@ public final class EndSums {
 
     public int item(int line, int i) throws NoSuchElementException {
         Line l = lineAt(line);
-        if (l == null) {
-            return NONE;
-        }
-        if (i < 0 || i >= l.size()) {
+        if (l == null || i < 0 || i >= l.size()) {
             throw new NoSuchElementException("no such item");
         }
         int end = l.endOf(i);

@@ -61,9 +61,13 @@ public final class AsksTest {
             CHECK.due("item none such", Check.itemAt(x, 0, i), Check.THROWN);
         }
         CHECK.due("of an empty LINE", Check.itemAt(x, 1, 0), Check.THROWN);
-        // Terms 3 holds for every promise: no such LINE is NONE.
-        CHECK.due("no LINE", Check.itemAt(x, 4, 0), -1);
-        CHECK.due("no LINE", Check.itemAt(x, -1, 9), -1);
+        // Promise 23 names no answer below 0, so of no such LINE there is none such.
+        int[] noLine = {4, -1, MIN, MAX};
+        for (int line : noLine) {
+            CHECK.due("no LINE", Check.itemAt(x, line, 0), Check.THROWN);
+            CHECK.due("no LINE, none such", Check.itemAt(x, line, 9), Check.THROWN);
+            CHECK.due("no LINE, below 0", Check.itemAt(x, line, -1), Check.THROWN);
+        }
         CHECK.row("ROW stays", x, 1, 0, 24, 3);
         x.rule(6);
         Check.itemAt(x, 0, 0);

@@ -551,9 +551,8 @@ final class Model {
     }
 
     int item(int l, int i) {
-        if (!line(l)) return -1;
+        if (!line(l) || i < 0 || i >= lines[l].size()) throw new NoSuchElementException();
         Row r = lines[l];
-        if (i < 0 || i >= r.size()) throw new NoSuchElementException();
         List<Integer> items = r.items();
         int f = r.front.size();
         long[] sum = summary(i < f ? items.subList(i, f) : items.subList(f, i + 1));
