@@ -135,11 +135,35 @@ public final class LanguageTest {
         }
     }
 
+    /** That calls make no objects or arrays (so 512 calls fit the one room): new stands in fields, constructors and throws alone. */
+    private static void makings(List<String> lines) {
+        String head = "";
+        int seen = 0;
+        for (int i = 0; i < lines.size(); i++) {
+            String line = lines.get(i);
+            if (line.matches("^ {4}(    )?(public|private).*\\{$")) {
+                head = line.trim();
+            }
+            if (line.matches(".*\\bnew\\b.*") && !line.matches("^\\s*(//|/?\\*).*")) {
+                seen++;
+                boolean field = line.matches("^ {4}(    )?private [^(]* = new .*;$");
+                boolean constructor = head.matches("(public|private) [A-Z]\\w*\\(.*");
+                if (!field && !constructor && !line.trim().startsWith("throw new ")) {
+                    fault("line " + (i + 1) + " makes an object in a call: " + line.trim());
+                }
+            }
+        }
+        if (seen == 0) {
+            fault("nothing is made");
+        }
+    }
+
     public static void main(String[] args) throws IOException {
         List<String> lines = Files.readAllLines(Paths.get(args.length > 0 ? args[0] : "src/main/java/EndSums.java"));
         face();
         words(lines);
         lengths(lines);
+        makings(lines);
         System.out.println("LanguageTest: " + lines.size() + " lines, " + wrong + " wrong");
         if (wrong != 0) {
             System.exit(1);
